@@ -382,9 +382,9 @@ public final class MoveOrder {
         }
 
         private void startPlan(int length) {
+            forgetPlan();
             planned = true;
             moves = length;
-            worked = 0;
         }
 
         private void setMove(int i, int box, int source, int target) {
@@ -478,8 +478,9 @@ public final class MoveOrder {
             for (int at = 0; at < MOST_STATES && at < reached && end == NONE; at++) {
                 tryMoves(at);
             }
-            bay.forgetPlan();
-            if (end != NONE) {
+            if (end == NONE) {
+                bay.forgetPlan();
+            } else {
                 tellPlan(bay);
             }
             forgetSeen();
@@ -577,12 +578,12 @@ public final class MoveOrder {
 
         private void tellPlan(Bay bay) {
             int length = 0;
-            for (int at = end; at > 0 && length < MOST_MOVES; at = parents[at]) {
+            for (int at = end; at > 0 && at < MOST_STATES && length < MOST_MOVES; at = parents[at]) {
                 length++;
             }
             bay.startPlan(length);
             int at = end;
-            for (int i = length - 1; i >= 0 && at > 0; i--) {
+            for (int i = length - 1; i >= 0 && at > 0 && at < MOST_STATES; i--) {
                 int step = steps[at];
                 bay.setMove(i, numbers[step >> 6 & MOST_IN_BAY - 1], step >> 3 & 7, step & 7);
                 at = parents[at];

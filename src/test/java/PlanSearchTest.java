@@ -1,9 +1,6 @@
 /** Promise 4: plans of bays of every kind (up to the boxes' numbers) against those of the model. */
 public final class PlanSearchTest {
-    // Each so many of the bays is tried, which keeps the test short; 1 tries all of them.
-    private static final int EACH = 5;
     private static final Check CHECK = new Check();
-    private static int kind = 0;
 
     /** Tells a bay to both: false if the document refuses a box or a need of it. */
     private static boolean tell(MoveOrder x, Model y, int boxes, int[] bay) {
@@ -70,9 +67,7 @@ public final class PlanSearchTest {
                     }
                     for (int stacks = 0; stacks < threes[boxes]; stacks++) {
                         for (int tiers = 1; tiers <= 4; tiers++) {
-                            if (kind++ % EACH == 0) {
-                                compare(tiers, boxes, new int[] {stacks, ports, needs});
-                            }
+                            compare(tiers, boxes, new int[] {stacks, ports, needs});
                         }
                     }
                 }
