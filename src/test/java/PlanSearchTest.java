@@ -43,7 +43,7 @@ public final class PlanSearchTest {
             want.append(i == 0 ? "" : " ").append(y.move(0, i, 0)).append(':').append(y.move(0, i, 1))
                 .append('>').append(y.move(0, i, 2));
         }
-        CHECK.same(call, want.toString(), Check.plan(x, 0, x.count(20)));
+        CHECK.same(call, want.toString(), Check.planned(x, 0));
     }
 
     private static boolean needsFit(int boxes, int ports, int needs) {
