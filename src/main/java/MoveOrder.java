@@ -592,7 +592,7 @@ public final class MoveOrder {
 
         /** Only the rows that were used are cleared, which spares going through all of them. */
         private void forgetSeen() {
-            for (int at = 0; at < reached; at++) {
+            for (int at = 0; at < MOST_STATES && at < reached; at++) {
                 seen[states[at] >> 6 & SEEN_ROWS - 1] = 0L;
             }
         }
